@@ -253,8 +253,12 @@ public final class GentleRoad {
         needUnlike(a, b);
         needUnlike(b, c);
         needUnlike(a, c);
-        int where = planner.meetingPlace(a, b, c);
-        return where == NONE || what == 0 ? where : planner.together(where);
+        planner.clearSums();
+        planner.addCosts(a);
+        planner.addCosts(b);
+        planner.addCosts(c);
+        int where = planner.leastSumPlace();
+        return where == NONE || what == 0 ? where : planner.sumAt(where);
     }
 
     public int round() throws IllegalArgumentException {
@@ -645,7 +649,8 @@ public final class GentleRoad {
         }
 
         int differ(int place, int other) {
-            return Math.abs(height(place) - height(other));
+            int rise = cells[HEIGHT_CELLS + other] - cells[HEIGHT_CELLS + place];
+            return rise < 0 ? -rise : rise;
         }
 
         /** Whether a step could be if it were not too steep. */
@@ -1071,10 +1076,12 @@ public final class GentleRoad {
                 if (keys[nodes[above]] <= keys[node]) {
                     break;
                 }
-                put(nodes[above], spot);
+                nodes[spot] = nodes[above];
+                spots[nodes[spot]] = spot;
                 spot = above;
             }
-            put(node, spot);
+            nodes[spot] = node;
+            spots[node] = spot;
         }
 
         private void sink(int node) {
@@ -1087,14 +1094,11 @@ public final class GentleRoad {
                 if (keys[node] <= keys[nodes[below]]) {
                     break;
                 }
-                put(nodes[below], spot);
+                nodes[spot] = nodes[below];
+                spots[nodes[spot]] = spot;
                 spot = below;
                 below = 2 * spot + 1;
             }
-            put(node, spot);
-        }
-
-        private void put(int node, int spot) {
             nodes[spot] = node;
             spots[node] = spot;
         }
@@ -1156,9 +1160,10 @@ public final class GentleRoad {
 
         /** As measure, and the way itself is the path then. */
         int find(int from, int to, int kind) {
-            int much = measure(from, to, kind);
+            prepare(kind, land.value(GRADE), false);
+            search(to, from);
             walk(from, to);
-            return much;
+            return left(from);
         }
 
         int measureBored(int from, int to, int bores) {
@@ -1207,34 +1212,34 @@ public final class GentleRoad {
             if (!land.isOpen(place, heading)) {
                 return;
             }
-            boolean steep = land.isSteep(place, heading, grade);
-            if (steep && !boring) {
-                return;
-            }
-            int much = amount(place, heading, kind);
-            if (steep) {
+            if (land.isSteep(place, heading, grade)) {
                 lifts[step] = 1;
-                much += land.value(BORE);
+                if (!boring) {
+                    return;
+                }
             }
+            int much = amount(place, heading, kind) + lifts[step] * land.value(BORE);
             // with bores a way may have more steps than the lowest bits hold, and no one asks how many
             weights[step] = (much << STEP_BITS) + (boring ? 0 : 1);
         }
 
         private int amount(int place, int heading, int kind) {
             int next = land.besideOf(place, heading);
+            int rise = land.height(next) - land.height(place);
+            int cost = longOf(heading) + land.value(RISE) * (rise < 0 ? -rise : rise);
             switch (kind) {
                 case BY_LONG:
                     return longOf(heading);
                 case BY_CLIMB:
-                    return Math.max(0, land.height(next) - land.height(place));
+                    return rise < 0 ? 0 : rise;
                 case BY_STEPS:
                     return 1;
                 case BY_USED:
-                    return land.stepCost(place, heading) >> ((used[place] >> heading) & 1);
+                    return cost >> ((used[place] >> heading) & 1);
                 case BY_WASHED:
-                    return land.stepCost(place, heading) + streams.catchOf(next);
+                    return cost + streams.catchOf(next);
                 default:
-                    return land.stepCost(place, heading);
+                    return cost;
             }
         }
 
@@ -1487,11 +1492,19 @@ public final class GentleRoad {
             return is;
         }
 
-        int meetingPlace(int a, int b, int c) {
+        void clearSums() {
             Arrays.fill(sums, 0);
-            addCosts(a);
-            addCosts(b);
-            addCosts(c);
+        }
+
+        void addCosts(int goal) {
+            ways.searchAll(goal);
+            for (int place = 0; place < land.places(); place++) {
+                int cost = ways.costBetween(place, goal);
+                sums[place] = cost == NONE || sums[place] == FAR ? FAR : sums[place] + cost;
+            }
+        }
+
+        int leastSumPlace() {
             int where = NONE;
             for (int place = 0; place < land.places(); place++) {
                 if (sums[place] < FAR && (where == NONE || sums[place] < sums[where])) {
@@ -1501,16 +1514,7 @@ public final class GentleRoad {
             return where;
         }
 
-        private void addCosts(int goal) {
-            ways.searchAll(goal);
-            for (int place = 0; place < land.places(); place++) {
-                int cost = ways.costBetween(place, goal);
-                sums[place] = cost == NONE || sums[place] == FAR ? FAR : sums[place] + cost;
-            }
-        }
-
-        /** Of the latest meetingPlace. */
-        int together(int where) {
+        int sumAt(int where) {
             return sums[where];
         }
 
@@ -1643,6 +1647,7 @@ public final class GentleRoad {
         private static final int MOST_SUM = 75;
         private static final int SUMS = 2 * MOST_SUM + 1;
         private static final int CHOICE_BITS = 3;
+        private static final int BEYOND = MOST_DEPTH + 1;
         private final Land land;
         /** Of two places alone, as those of a place need just those of the next one. */
         private final int[] earths;
@@ -1706,8 +1711,8 @@ public final class GentleRoad {
                 int choice = 0;
                 for (int offset = -depth; offset <= depth; offset++) {
                     int next = isLast ? 0 : bestNext(k, offset, sum);
-                    int ahead = isLast ? 0 : earthAhead(k, next, sum);
-                    earths[cell(k, offset, sum)] = ahead >= FAR ? FAR : earthOf(offset) + ahead;
+                    int ahead = isLast || next == BEYOND ? 0 : earths[cell(k + 1, next, sum + next)];
+                    earths[cell(k, offset, sum)] = next == BEYOND ? FAR : earthOf(offset) + ahead;
                     choice |= (next + MOST_DEPTH) << choiceShift(offset);
                 }
                 choices[k * SUMS + sum + MOST_SUM] = choice;
@@ -1721,28 +1726,22 @@ public final class GentleRoad {
             nextBound = bound(which, k + 1);
         }
 
-        /** The first of the next offsets that need the least earth; one that cannot be, if all cannot. */
+        /** The first of the next offsets that need the least earth; beyond all of them, if none can be. */
         private int bestNext(int k, int offset, int sum) {
-            int from = Math.max(-depth, offset - rising - room);
-            int to = Math.min(depth, offset - rising + room);
-            int best = MOST_DEPTH + 1;
+            int from = Math.max(Math.max(-depth, offset - rising - room), -nextBound - sum);
+            int to = Math.min(Math.min(depth, offset - rising + room), nextBound - sum);
+            int best = BEYOND;
             int least = FAR;
+            int cell = cell(k + 1, from, sum + from);
             for (int next = from; next <= to; next++) {
-                int earth = earthAhead(k, next, sum);
-                if (earth < least) {
+                if (earths[cell] < least) {
                     best = next;
-                    least = earth;
+                    least = earths[cell];
                 }
+                // a next offset of one more makes the sum one more, too
+                cell += SUMS + 1;
             }
             return best;
-        }
-
-        private int earthAhead(int k, int next, int sum) {
-            int wider = sum + next;
-            if (next > depth || wider < -nextBound || wider > nextBound) {
-                return FAR;
-            }
-            return earths[cell(k + 1, next, wider)];
         }
 
         /** What offsets up to a place can come to, if all of them are to come to the spoil at most. */
