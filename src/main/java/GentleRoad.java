@@ -239,9 +239,8 @@ public final class GentleRoad {
 
     public int bored(int from, int to, int n) throws IndexOutOfBoundsException, IllegalArgumentException {
         needPair(from, to);
-        if (from == to || n < 0 || n > MOST_BORED) {
-            throw new IllegalArgumentException("both places are one, or there is no such number of bores");
-        }
+        needUnlike(from, to);
+        needNumber(n, 0, MOST_BORED);
         return ways.measureBored(from, to, n);
     }
 
@@ -625,14 +624,16 @@ public final class GentleRoad {
 
         /** By which heading the k-th step of a road goes. */
         int roadHeading(int which, int k) {
-            int first = roadPlace(which, k) * HEADINGS;
-            int to = roadPlace(which, k + 1);
-            for (int heading = 0; heading < HEADINGS; heading++) {
-                if (besides[first + heading] == to) {
-                    return heading;
-                }
+            return headingTo(roadPlace(which, k), roadPlace(which, k + 1));
+        }
+
+        /** To a place beside: of the eight the last one need not be looked at. */
+        int headingTo(int place, int next) {
+            int heading = 0;
+            while (heading < HEADINGS - 1 && besides[place * HEADINGS + heading] != next) {
+                heading++;
             }
-            return 0;
+            return heading;
         }
 
         int besideOf(int place, int heading) {
@@ -1400,6 +1401,7 @@ public final class GentleRoad {
         private final Land land;
         private final Ways ways;
         private final int[] marks;
+        private final int[] touched;
         private final int[] sums;
         private final int[] stops;
         private final int[] legs;
@@ -1411,6 +1413,7 @@ public final class GentleRoad {
             this.land = land;
             this.ways = ways;
             marks = new int[MOST_PLACES];
+            touched = new int[MOST_PLACES];
             sums = new int[MOST_PLACES];
             stops = new int[ROUND_PLACES];
             legs = new int[ROUND_PLACES * ROUND_PLACES];
@@ -1458,7 +1461,7 @@ public final class GentleRoad {
             }
             markTouched();
             for (int place = 0; place < land.places(); place++) {
-                if (sums[place] != 0 && place != from && place != to && !isWayWithout(place, from, to)) {
+                if (touched[place] != 0 && place != from && place != to && !isWayWithout(place, from, to)) {
                     return place;
                 }
             }
@@ -1468,16 +1471,13 @@ public final class GentleRoad {
         /** Only a place that the path touches can break it, so no other need be tried. */
         private void markTouched() {
             int[] path = ways.path();
-            Arrays.fill(sums, 0);
-            for (int k = 0; k < ways.pathSize(); k++) {
-                sums[path[k]] = 1;
-            }
+            Arrays.fill(touched, 0);
             for (int k = 0; k + 1 < ways.pathSize(); k++) {
-                for (int heading = 1; heading < HEADINGS; heading += 2) {
-                    if (land.besideOf(path[k], heading) == path[k + 1]) {
-                        sums[land.besideOf(path[k], heading - 1)] = 1;
-                        sums[land.besideOf(path[k], (heading + 1) & 7)] = 1;
-                    }
+                int heading = land.headingTo(path[k], path[k + 1]);
+                touched[path[k + 1]] = 1;
+                if ((heading & 1) != 0) {
+                    touched[land.besideOf(path[k], heading - 1)] = 1;
+                    touched[land.besideOf(path[k], (heading + 1) & 7)] = 1;
                 }
             }
         }
@@ -1623,10 +1623,7 @@ public final class GentleRoad {
         private int costWithout(int step, int from, int to) {
             int place = ways.path()[step];
             int next = ways.path()[step + 1];
-            int heading = 0;
-            while (heading < HEADINGS - 1 && land.besideOf(place, heading) != next) {
-                heading++;
-            }
+            int heading = land.headingTo(place, next);
             int weight = ways.takeWeight(place, heading);
             int weightBack = ways.takeWeight(next, opposite(heading));
             ways.search(to, from);

@@ -155,6 +155,8 @@ public final class LandTest {
         wrongAt("land 2 2", 8);
         wrongAt("land 2 2  ", 10);
         wrongAt("land 2 2;", 9);
+        wrongAt("land 2 1;row 1 1", 7);
+        wrongAt("land 2 10", 7);
         wrongAt("land 2 2; wet 1", 10);
         wrongAt("land 2 2;rows 1 2", 9);
         wrongAt("land 2 2;row;", 12);

@@ -127,7 +127,7 @@ public final class RandomRunsTest {
             case "bored": both.call(name, aPlace(), aPlace(), pick(4)); break;
             case "meet": both.call(name, aPlace(), aPlace(), aPlace(), pick(2)); break;
             case "round": goRound(); break;
-            case "road": both.call(name, pick(4), pick(15)); break;
+            case "road": roadAll(); break;
             case "at": atAll(); break;
             case "water": both.call(name, aPlace(), pick(3)); break;
             case "bridges": both.call(name, pick(4), upTo(2) == 0 ? pick(82) : 1 + upTo(5)); break;
@@ -163,6 +163,17 @@ public final class RandomRunsTest {
         for (int k = -1; k < 8; k++) {
             both.call("at", road, k, 0);
             both.call("at", road, k, 1);
+        }
+    }
+
+    private void roadAll() {
+        int road = pick(4);
+        if (upTo(3) != 0) {
+            both.call("road", road, pick(15));
+            return;
+        }
+        for (int what = 0; what < 15; what++) {
+            both.call("road", road, what);
         }
     }
 

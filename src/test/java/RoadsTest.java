@@ -8,6 +8,7 @@ public final class RoadsTest {
     public static void main(String[] args) {
         promise13Level();
         promise13LevelBounds();
+        promise13LevelOfForty();
         promise23Road();
         promise23RoadBroken();
         promise23RoadLevels();
@@ -36,6 +37,8 @@ public final class RoadsTest {
         x.tune(8, 9);
         Due.same("13: digging is dear", x.level(0, 10), 2);
         Due.same("13: banks", Due.offsets(x, 0), "1 1 0 0");
+        x.tune(9, 3);
+        Due.same("23: earth of offsets as they are", x.road(0, 8) + " " + x.road(0, 9), "6 2");
         x.tune(8, 0);
         x.tune(9, 0);
         Due.same("13: for nothing", x.level(0, 20), 0);
@@ -70,6 +73,28 @@ public final class RoadsTest {
         Due.same("13: 600 is not above 43 times 14", across.earth(3, 43), 1);
         across.level(3, 43);
         Due.same("13: the lesser first", Due.offsets(across, 3), "0 -1");
+    }
+
+    /** Earth costs nothing, so the first offsets are as low as the others can make up for. */
+    private static void promise13LevelOfForty() {
+        GentleRoad x = Due.land(Due.level(9, 9, 50, ";bend 4;depth 3;spoil 30;dig 0;fill 0"));
+        for (int row = 1; row < 9; row += 2) {
+            for (int column = 0; column < 9; column++) {
+                if (column != (row % 4 == 1 ? 8 : 0)) {
+                    x.flood(row * 9 + column, true);
+                }
+            }
+        }
+        x.build(0, 0, 79);
+        Due.same("13: forty", x.road(0, 0), 40);
+        Due.same("13: for nothing", x.level(0, 99), 0);
+        Due.same("13: 75 down, 45 up", Due.offsets(x, 0), "-3 ".repeat(25) + "3 ".repeat(15).trim());
+        Due.same("13: together", x.road(0, 9), -30);
+        x.tune(10, 0);
+        x.level(0, 60);
+        Due.same("13: 60 down, 60 up", Due.offsets(x, 0), "-3 ".repeat(20) + "3 ".repeat(20).trim());
+        x.level(0, 10);
+        Due.same("13: by one a step", Due.offsets(x, 0), "-3 ".repeat(17) + "-2 -1 0 0 1 2" + " 3".repeat(17));
     }
 
     private static String answers(GentleRoad x, int road) {
