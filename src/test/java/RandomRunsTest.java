@@ -94,7 +94,8 @@ public final class RandomRunsTest {
 
     /** Mostly a right one. */
     private int pick(int many) {
-        return upTo(60) == 0 ? (upTo(1) == 0 ? -1 : many) : upTo(many - 1);
+        int[] none = {-1, many, many + 1, 100, Integer.MIN_VALUE, Integer.MAX_VALUE};
+        return upTo(60) == 0 ? none[upTo(5)] : upTo(many - 1);
     }
 
     private int aPlace() {
