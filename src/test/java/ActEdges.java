@@ -187,6 +187,15 @@ final class ActEdges extends Edges {
             is(x, "earth 0 9", NONE);
             is(x, "earth 0 10", 2 * depth);
         }
+        // each offset at the first place and at a later one: by what is cheap there alone
+        for (int offset = -3; offset <= 3; offset++) {
+            String cheap = offset < 0 ? ";dig 1;fill 9" : ";dig 9;fill 1";
+            GentleRoad x = land("land 3 2;row 10 10 " + (10 - offset) + ";row 90 90 90;grade 99;rise 0;depth 3;spoil 3" + cheap);
+            did(x, "build 0 0 2", "build 1 2 0");
+            are(x, Math.abs(offset) + " " + Math.abs(offset), "level 0 0", "level 1 0");
+            offsetsAre(x, 0, "0 0 " + offset);
+            offsetsAre(x, 1, offset + " 0 0");
+        }
         for (int rule : new int[] {-1, 100, LEAST, MOST}) {
             is(slope(1, ""), "earth 0 " + rule, WRONG);
             is(slope(1, ""), "level 0 " + rule, WRONG);
@@ -264,6 +273,16 @@ final class ActEdges extends Edges {
         are(odd, "-1 0", "earth 0 9", "earth 0 10");
         did(odd, "tune 10 1");
         is(odd, "earth 0 9", 1);
+        // 0 0 2 high by 10: 0 0 -1 does not balance, 0 1 -1 and 1 0 -1 do
+        GentleRoad balance = land("land 3 2;row 0 0 2;row 90 90 90;spoil 0");
+        did(balance, "build 0 0 2");
+        are(balance, "2 0 0 -1", "level 0 10", "road 0 9", "earth 0 20", "earth 0 9");
+        offsetsAre(balance, 0, "0 1 -1");
+        is(balance, "level 0 20", 0);
+        offsetsAre(balance, 0, "0 0 0");
+        did(balance, "tune 10 1");
+        is(balance, "level 0 10", 1);
+        offsetsAre(balance, 0, "0 0 -1");
         // the greatest spoil and the longest road: 75 down, 45 up
         GentleRoad x = serpentine(";depth 3;spoil 30;dig 0;fill 0");
         did(x, "build 0 0 79");
@@ -275,6 +294,28 @@ final class ActEdges extends Edges {
         offsetsAre(x, 0, ("-3 ".repeat(24) + "-2 " + "3 ".repeat(15)).trim());
         did(x, "tune 9 1");
         is(x, "road 0 8", 45);
+        longestBalance(3);
+        longestBalance(-3);
+    }
+
+    /** By 0 all must come to one level: 25 by 3 the one way, 15 the other, which is 30 together. */
+    private static void longestBalance(int high) {
+        GentleRoad x = serpentine(";depth 3;spoil 30;rise 0;dig 2");
+        did(x, "build 0 0 79", "build 1 79 0");
+        String[] places = row(x, 0, false).split(" ");
+        for (int k = 0; k < 40; k++) {
+            did(x, "raise " + places[k] + " " + (k < 25 ? high : -high));
+        }
+        int due = high > 0 ? 2 * 75 + 45 : 75 + 2 * 45;
+        String begin = (-high + " ").repeat(25).trim();
+        String end = (high + " ").repeat(15).trim();
+        are(x, due + " " + due + " " + -10 * high + " " + -10 * high, "level 0 0", "level 1 0", "road 0 9", "road 1 9");
+        offsetsAre(x, 0, begin + " " + end);
+        offsetsAre(x, 1, end + " " + begin);
+        are(x, "0 0 50 50", "road 0 10", "road 1 10", "road 0 11", "road 0 12");
+        did(x, "tune 10 29");
+        are(x, "-1 -1", "earth 0 0", "earth 1 0");
+        is(x, "level 0 0", CANNOT);
     }
 
     private static void gradingEarth() {

@@ -35,6 +35,12 @@ final class AskEdges extends Edges {
         is(land("land 2 2;row 0 3;row 3 3"), "reach 1", 2);
         is(land("land 2 2;row 0 2;row 3 3"), "reach 0", 3);
         is(land("land 2 2;row 0 2;row 5 5"), "reach 0", 1);
+        // by GRADE as it is: 4 by 10 is steep below 40
+        GentleRoad grade = land("land 2 2;row 0 4;row 90 90");
+        for (int at : new int[] {39, 40, 1, 99}) {
+            did(grade, "tune 0 " + at);
+            is(grade, "reach 0", at < 40 ? 0 : 1);
+        }
         // one comes to 1 and its own place again, which count once and not at all
         is(twice(), "reach 4", 7);
         is(land("land 3 3;row 0 1 0;row 1 0 1;row 0 1 0;bend 0;flat 0"), "reach 0", 6);
@@ -81,7 +87,11 @@ final class AskEdges extends Edges {
         // both beside a step across may not be wet
         are(flat(2, 2, ";wet 1"), "2 2", "gate 0 3", "gate 3 0");
         are(flat(2, 2, ";wet 2"), "1 1", "gate 0 3", "gate 3 0");
+        are(flat(2, 2, ";wet 3"), "0 0", "gate 1 2", "gate 2 1");
+        are(flat(2, 2, ";wet 0"), "3 3", "gate 1 2", "gate 2 1");
         is(flat(2, 2, ""), "gate 0 3", NONE);
+        // the first place of all
+        are(flat(3, 2, ";wet 4"), "0 0", "gate 1 3", "gate 3 1");
         // the last place but one of the greatest land; with more water 78, then 77 come first
         GentleRoad last = flat(9, 9, ";wet 71");
         are(last, "79 79", "gate 0 80", "gate 80 0");
@@ -93,6 +103,12 @@ final class AskEdges extends Edges {
         GentleRoad lines = land("land 3 3;row 0 1 0;row 1 0 1;row 0 1 0;bend 0;flat 0");
         is(lines, "gate 0 8", 4);
         is(lines, "gate 0 5", NONE);
+        // without 1 one must go by 4, 4 higher: steep across below 29
+        GentleRoad grade = land("land 3 2;row 0 0 0;row 90 4 90;bend 2");
+        for (int at : new int[] {1, 28, 29, 20, 50, 99}) {
+            did(grade, "tune 0 " + at);
+            are(grade, at < 29 ? "1 1" : "-1 -1", "gate 0 2", "gate 2 0");
+        }
         // nothing is changed by asking
         are(lines, "0 0", "count 2", "count 4");
     }
@@ -130,11 +146,63 @@ final class AskEdges extends Edges {
         is(bend, "bored 0 5 3", NONE);
         did(bend, "tune 1 1");
         is(bend, "bored 0 5 3", 10 + 60 + 50 + 14 + 60 + 50 + 1);
+        // four bands, each too high for the one before: three bores, from one end of the greatest land to the other
+        GentleRoad bands = bands();
+        are(bands, "-1 -1 -1 " + (7 * 10 + 14 + 7 * 10), "bored 0 80 0", "bored 0 80 1", "bored 0 80 2", "bored 0 80 3");
+        are(bands, "-1 " + (7 * 10 + 14 + 7 * 10), "bored 80 0 2", "bored 80 0 3");
+        GentleRoad halves = halves();
+        are(halves, "-1 154 154 154", "bored 0 80 0", "bored 0 80 1", "bored 0 80 2", "bored 0 80 3");
+        corners();
         // once through is less than round, twice is less than once
         GentleRoad hill = land("land 3 3;row 0 50 0;row 0 50 0;row 0 0 0;bend 4;turn 0;rise 0;bore 13");
         are(hill, "48 48 46 46", "bored 0 2 0", "bored 0 2 1", "bored 0 2 2", "bored 0 2 3");
         did(hill, "tune 6 14");
         are(hill, "48 48 48 48", "bored 0 2 0", "bored 0 2 1", "bored 0 2 2", "bored 0 2 3");
+    }
+
+    private static GentleRoad bands() {
+        return terraces(90, 90, 90, 60, 60, 30, 30, 0, 0);
+    }
+
+    /** One half is too high for the other, so that nearly all can be come to by as many bores as one likes. */
+    private static GentleRoad halves() {
+        return terraces(50, 50, 50, 50, 0, 0, 0, 0, 0);
+    }
+
+    /** The second row is wet but for its last place, so that nothing is as far from 80 as 0 is. */
+    private static GentleRoad terraces(int... rows) {
+        StringBuilder text = new StringBuilder("land 9 9");
+        for (int row : rows) {
+            text.append(";row").append((" " + row).repeat(9));
+        }
+        text.append(";bend 4;turn 0;rise 0;bore 0");
+        for (int place = 9; place < 17; place++) {
+            text.append(";wet ").append(place);
+        }
+        return land(text.toString());
+    }
+
+    /** Over each corner of the greatest land: 3 straight on are steep, 1 and 2 by the corner are not. */
+    private static void corners() {
+        int[][] over = {{1, 0, 10}, {9, 0, 10}, {7, 8, 16}, {17, 8, 16}, {63, 72, 64}, {73, 72, 64}, {79, 80, 70}, {71, 80, 70}};
+        for (int[] way : over) {
+            GentleRoad x = land(level(9, 9, 90, ";bend 4"));
+            did(x, "raise " + way[0] + " -90", "raise " + way[1] + " -89", "raise " + way[2] + " -87");
+            for (int n = 0; n <= 3; n++) {
+                is(x, "bored " + way[0] + " " + way[2] + " " + n, 10 + 2 + 14 + 4 + 3);
+                is(x, "bored " + way[2] + " " + way[0] + " " + n, 10 + 2 + 14 + 4 + 3);
+            }
+        }
+        // four steep ones, one turns at the corner alone; with one less it can be
+        GentleRoad four = land(level(9, 9, 90, ";bend 0;flat 30"));
+        did(four, "raise 9 -90", "raise 0 -87", "raise 1 -84", "raise 2 -81", "raise 3 -78", "raise 10 -87");
+        for (int place : new int[] {10, 11, 12, 13, 4, 18, 19}) {
+            did(four, "flood " + place + " true");
+        }
+        are(four, "-1 -1", "bored 9 3 3", "bored 3 9 3");
+        did(four, "raise 9 1");
+        int due = 40 + 2 * (2 + 3 + 3 + 3) + 3 * 50 + 20;
+        are(four, due + " " + due + " -1 -1", "bored 9 3 3", "bored 3 9 3", "bored 9 3 2", "bored 3 9 2");
     }
 
     private static void meet() {
@@ -147,6 +215,16 @@ final class AskEdges extends Edges {
         are(flat(2, 2, ""), "3 20", "meet 1 2 3 0", "meet 1 2 3 1");
         // bends count for each of the three ways
         are(flat(3, 3, ";turn 9;bend 4;wet 4"), "1 " + (10 + 9 + 14 + 14), "meet 8 3 1 0", "meet 8 3 1 1");
+        // all three at the end of the greatest land, and at its corners
+        GentleRoad most = flat(9, 9, ";bend 4;turn 0");
+        are(most, "79 20 79 20", "meet 78 79 80 0", "meet 78 79 80 1", "meet 80 78 79 0", "meet 80 78 79 1");
+        are(most, "40 152", "meet 0 8 76 0", "meet 0 8 76 1");
+        // by GRADE as it is: 4 by 10 is steep below 40
+        GentleRoad grade = land("land 3 2;row 0 4 0;row 90 90 91;rise 1;hair 20;bore 50");
+        for (int at : new int[] {39, 40, 20, 50, 1, 99}) {
+            did(grade, "tune 0 " + at);
+            are(grade, at < 40 ? "-1 -1" : "1 28", "meet 0 1 2 0", "meet 0 1 2 1");
+        }
         says(", of several the first; none, if there is no such one.");
         GentleRoad ring = flat(3, 3, ";turn 0;bend 4;wet 4");
         are(ring, "1 38", "meet 8 3 1 0", "meet 8 3 1 1");
@@ -200,6 +278,12 @@ final class AskEdges extends Edges {
         round(y, NONE, 0, 4);
         round(y, NONE, 0, 1, 2, 3, 4, 5);
         round(y, NONE, 4, 0, 1);
+        // by GRADE as it is: 4 by 10 is steep below 40
+        GentleRoad grade = land("land 2 2;row 0 4;row 90 90;rise 1");
+        for (int at : new int[] {39, 40, 20, 50, 1, 99}) {
+            did(grade, "tune 0 " + at);
+            round(grade, at < 40 ? NONE : 28, 0, 1);
+        }
         // there is none, if just one of them is not come to
         GentleRoad lines = land("land 3 3;row 0 1 0;row 1 0 1;row 0 1 0;bend 0;flat 0;rise 0");
         round(lines, NONE, 0, 5);
@@ -366,6 +450,19 @@ final class AskEdges extends Edges {
         are(x, "4 4 6 2 4", "water 12 2", "water 18 2", "water 13 2", "water 19 2", "water 6 2");
         did(x, "raise 12 98");
         is(x, "water 12 2", 99);
+        // a low place at the edge is not beside the middle one, wherever it lies: the ring between must be crossed
+        for (int place = 0; place < 25; place++) {
+            int row = place / 5;
+            int column = place % 5;
+            if (row == 0 || row == 4 || column == 0 || column == 4) {
+                GentleRoad ring = land(level(5, 5, 50, ""));
+                did(ring, "raise 12 -50", "raise " + place + " -49");
+                are(ring, "50 1", "water 12 2", "water " + place + " 2");
+                int between = Math.max(1, Math.min(3, row)) * 5 + Math.max(1, Math.min(3, column));
+                did(ring, "raise " + between + " -48");
+                is(ring, "water 12 2", 2);
+            }
+        }
         GentleRoad high = nine(heights(99), "");
         did(high, "raise 4 -99");
         are(high, "99 99", "water 4 2", "water 0 2");
@@ -419,6 +516,15 @@ final class AskEdges extends Edges {
         are(x, "0 10", "joins 4 1 0", "joins 4 1 1");
         did(x, "flood 0 true", "flood 2 true", "flood 3 true");
         are(x, "-1 -1 0 0", "joins 4 1 0", "joins 4 1 1", "joins 0 1 0", "joins 0 1 1");
+        // by GRADE as it is: 4 by 10 is steep below 40, by 14 below 29
+        GentleRoad grade = land("land 3 2;row 0 0 90;row 4 90 90;rise 1");
+        did(grade, "build 3 0 1");
+        String[] due = {"-1 -1", "1 18", "1 18", "0 14", "-1 -1", "0 14"};
+        int[] grades = {28, 29, 39, 40, 20, 50};
+        for (int k = 0; k < grades.length; k++) {
+            did(grade, "tune 0 " + grades[k]);
+            are(grade, due[k], "joins 3 3 0", "joins 3 3 1");
+        }
         // by cost, not by long: over the hill it is dear
         GentleRoad hill = land("land 3 2;row 0 0 0;row 2 0 0;rise 9");
         did(hill, "build 0 0 2");
@@ -441,6 +547,18 @@ final class AskEdges extends Edges {
         // one step alone: from 0 to 1 without it over 4, or 5
         are(flat(2, 2, ""), "0 " + (14 + 20 + 10), "spare 0 1 0", "spare 0 1 1");
         are(flat(2, 2, ";bend 4"), "0 " + (10 + 14 + 3), "spare 0 1 0", "spare 0 1 1");
+        // each is missing by itself: without 0 4 by 3, without 4 2 by 5, which comes to as much; without both it were 80
+        GentleRoad dent = flat(3, 2, ";wet 1");
+        wayIs(dent, 0, 2, 0, "0 4 2");
+        are(dent, "0 55 0 55", "spare 0 2 0", "spare 0 2 1", "spare 2 0 0", "spare 2 0 1");
+        is(dent, "best 0 2 0", 48);
+        // without 8 4 or 4 1 by 5, without 1 3 or 3 6 back from 1 over 4, a step that is missing no more: all are 70
+        GentleRoad turned = land("land 3 3;row 1 0 0;row 0 0 0;row 0 3 0;wet 2");
+        wayIs(turned, 8, 6, 0, "8 4 1 3 6");
+        are(turned, "70 0 70", "best 8 6 0", "spare 8 6 0", "spare 8 6 1");
+        // what was asked before does not matter: after one that is much, one that is none and one that is less
+        are(dent, "-1 -1 0 44", "spare 0 1 0", "spare 0 1 1", "spare 0 3 0", "spare 0 3 1");
+        are(dent, "0 55 -1", "spare 0 2 0", "spare 0 2 1", "spare 1 0 1");
         // a corridor: without each there is none, so the first
         GentleRoad row = flat(5, 2, ";wet 5;wet 6;wet 7;wet 8;wet 9");
         are(row, "0 -1 0 -1", "spare 0 4 0", "spare 0 4 1", "spare 4 1 0", "spare 4 1 1");
@@ -497,6 +615,20 @@ final class AskEdges extends Edges {
         are(again, "4 4", "common 0 1", "common 1 0");
         did(again, "build 2 4 13");
         are(again, "6 6", "common 0 2", "common 2 0");
+        // by whichever heading: one step to and fro, and none of a road that goes elsewhere
+        for (int heading = 0; heading < 8; heading++) {
+            GentleRoad one = flat(3, 3, "");
+            int next = AROUND[heading];
+            int far = AROUND[(heading + 4) % 8];
+            did(one, "build 0 4 " + next, "build 1 " + next + " 4", "build 2 " + far + " 4", "build 3 4 " + far);
+            are(one, "1 1 0 0 0 0 1", "common 0 1", "common 1 0", "common 0 2", "common 2 0", "common 0 3", "common 1 3",
+                    "common 2 3");
+        }
+        // all of them, of a road that winds: down, over, up
+        GentleRoad winding = land("land 2 2;row 3 0;row 2 1;bend 2");
+        did(winding, "build 0 0 1", "build 1 0 1", "build 2 1 0");
+        placesAre(winding, 0, "0 2 3 1");
+        are(winding, "3 3 3", "common 0 1", "common 0 2", "common 2 1");
         // broken or not
         did(x, "flood 0 true", "flood 1 true", "flood 2 true");
         is(x, "common 0 3", 3);

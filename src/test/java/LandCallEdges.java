@@ -85,6 +85,23 @@ final class LandCallEdges extends Refused {
         tell(y, FOUR + ";wet 9");
         // the first ones: what is cut off is wrong, what stays is not
         are(y, "true 4", "end 24", "land");
+        // a number, a word, a mark, a blank that went on is cut short
+        String[] whole = {FOUR + "5", FOUR + "56", FOUR + ";", FOUR + "x", FOUR + " 5"};
+        for (String text : whole) {
+            tell(y, text);
+            are(y, "true 4 -1 4", "end 24", "land", "fault", "place 3 0");
+        }
+        tell(y, "lands");
+        are(y, "true " + WRONG + " 4", "end 4", "land", "fault");
+        tell(y, "land 2 20");
+        are(y, "true " + WRONG + " 8", "end 8", "land", "fault");
+        tell(y, "land 2 2   ;row");
+        are(y, "true " + WRONG + " 10", "end 10", "land", "fault");
+        tell(y, FOUR + ";wets 1");
+        are(y, "true " + WRONG + " 28", "end 28", "land", "fault");
+        GentleRoad z = flat(3, 3, "");
+        tellPlaces(z, 0, 1, 1);
+        are(z, "true 20", "end 2", "round");
         says("false, and nothing happens, if it has fewer, or n is below 0.");
         tell(y, FOUR);
         are(y, "false false false false false", "end 25", "end 400", "end 401", "end " + MOST, "end " + (1 << 16));
@@ -304,6 +321,10 @@ final class LandCallEdges extends Refused {
         are(x, "3 2 2 13 7 3", "count 0", "count 1", "count 2", "count 3", "count 4", "count 5");
         did(x, "flood 0 false", "flood 4 false", "flood 4 false");
         are(x, "0 8", "count 2", "count 4");
+        // on the greatest land, with roads of many places
+        GentleRoad most = land(level(9, 9, 7, ";wet 80"));
+        did(most, "build 0 0 8", "build 3 72 79");
+        are(most, "9 9 1 9 2 81", "count 0", "count 1", "count 2", "count 3", "count 4", "count 5");
         says("NONE for another what.");
         for (int what : new int[] {-1, 6, LEAST, MOST}) {
             is(x, "count " + what, NONE);

@@ -42,6 +42,7 @@ final class RoadCallEdges extends Refused {
         GentleRoad far = serpentine("");
         did(far, "build 0 0 79");
         are(far, "40 422 0 422 0", "road 0 0", "road 0 1", "road 0 2", "road 0 3", "road 0 4");
+        fullRoads();
         says("5 the first STEP that is BROKEN (NONE), 6 the first BEND that is BROKEN (by the number of the PLACE in the ROAD; NONE)");
         are(x, "-1 -1 -1 -1", "road 0 5", "road 0 6", "road 1 5", "road 1 6");
         did(x, "tune 0 19");
@@ -79,6 +80,12 @@ final class RoadCallEdges extends Refused {
         are(z, "2 1 50 0", "road 0 13", "road 1 13", "road 0 14", "road 1 14");
         // seven to the east at first; 60 is 1 higher
         are(far, "7 1 1", "road 0 13", "road 0 14", "road 0 2");
+        // no further than the road goes, though the next place by that heading would be 0
+        GentleRoad end = flat(3, 3, "");
+        did(end, "build 0 2 1", "build 1 6 3", "build 2 8 4");
+        are(end, "1 1 1", "road 0 13", "road 1 13", "road 2 13");
+        did(end, "build 0 2 0", "build 1 6 0", "build 2 8 0");
+        are(end, "2 2 2", "road 0 13", "road 1 13", "road 2 13");
         // one, then four by another heading
         GentleRoad runs = flat(6, 2, ";turn 0;wet 7");
         did(runs, "build 0 6 5", "build 1 5 6", "build 2 0 1");
@@ -90,6 +97,32 @@ final class RoadCallEdges extends Refused {
             refused(CANNOT, "road 2 " + what);
         }
         noPlace("road R 0", "road R 15", "road R -1");
+    }
+
+    /** All four as long as can be: what is asked of one does not come from the next one. */
+    private static void fullRoads() {
+        GentleRoad x = serpentine(";depth 1;dig 0;fill 9;spoil 30");
+        String[] due = {"40", "422", "0", "422", "0", "-1", "-1", "0", "0", "0", "0", "50", "50", "7", "0"};
+        for (int road = 0; road < 4; road++) {
+            did(x, "build " + road + " 0 79");
+        }
+        for (int road = 0; road < 4; road++) {
+            for (int what = 0; what < 15; what++) {
+                is(x, "road " + road + " " + what, due[what]);
+            }
+        }
+        // 30 cut down by 1, 10 as they were; the others stay
+        for (int road = 0; road < 4; road++) {
+            is(x, "level " + road + " 10", 0);
+            are(x, "-30 0 50 49 40", "road R 9".replace("R", "" + road), "road R 8".replace("R", "" + road),
+                    "road R 11".replace("R", "" + road), "road R 12".replace("R", "" + road),
+                    "road R 0".replace("R", "" + road));
+            is(x, "road " + (road + 1) % 4 + " 9", road == 3 ? -30 : 0);
+        }
+        for (int road = 0; road < 4; road++) {
+            are(x, "-1 0 -1 100", "at R 0 true".replace("R", "" + road), "at R 39 true".replace("R", "" + road),
+                    "at R 40 false".replace("R", "" + road), "at R 40 true".replace("R", "" + road));
+        }
     }
 
     private static void at() {

@@ -179,6 +179,12 @@ final class StepEdges extends Edges {
         did(x, "tune 1 3");
         is(x, "road 0 3", steps + 99 + 9);
         is(x, "road 0 4", 1);
+        // and in a way that must turn there, by a hairpin
+        GentleRoad again = twice();
+        for (int hair : new int[] {0, 20, 99}) {
+            did(again, "tune 5 " + hair);
+            are(again, (steps + hair + 1) + " " + (steps + hair + 1), "best 4 13 0", "build 0 4 13");
+        }
         says("it can be, if it is BEND at most");
         // from 7 north to 4, then on: north, north-east, east, south-east
         int[] out = {0, 1, 2, 3};
@@ -246,6 +252,11 @@ final class StepEdges extends Edges {
         for (int heading = 0; heading < 8; heading++) {
             is(lines, "best 4 " + AROUND[heading] + " 0", longOf(heading) + (heading % 2 == 0 ? 2 : 0));
         }
+        // by 0 it were as far as by 3, and 0 comes first, but at 4 one cannot turn there
+        GentleRoad tie = land("land 3 2;row 1 3 0;row 1 0 0;wet 5");
+        wayIs(tie, 2, 1, 3, "2 4 3 1");
+        did(tie, "tune 1 2");
+        wayIs(tie, 2, 1, 3, "2 4 0 1");
         GentleRoad y = twice();
         wayIs(y, 4, 13, 0, "4 3 2 1 0 1 7 13");
         is(y, "best 4 13 3", 7);
@@ -320,6 +331,22 @@ final class StepEdges extends Edges {
         is(x, "best 0 1 4", 6);
         did(x, "flood 1 true");
         is(x, "best 0 1 4", NONE);
+        // of all steps the road's alone, to and fro: none beside it, whatever place it ends at
+        for (int heading = 0; heading < 8; heading++) {
+            for (String road : new String[] {"4 " + AROUND[heading], AROUND[heading] + " 4"}) {
+                onlyHalf("build 1 " + road, 4, AROUND[heading]);
+            }
+        }
+        onlyHalf("build 3 0 1", 0, 1);
+        onlyHalf("build 3 1 0", 0, 1);
+        // roads that cross have all their steps
+        GentleRoad cross = flat(3, 3, "");
+        did(cross, "build 0 3 5", "build 1 1 7", "build 2 0 8", "build 3 6 2");
+        for (int heading = 0; heading < 8; heading++) {
+            String half = "" + longOf(heading) / 2;
+            are(cross, half + " " + half, "best 4 " + AROUND[heading] + " 4", "best " + AROUND[heading] + " 4 4");
+        }
+        are(cross, "10 10 10 10", "best 0 1 4", "best 1 2 4", "best 6 3 4", "best 8 7 4");
         // bends are not halved
         GentleRoad bend = land("land 3 2;row 0 0 50;row 50 50 0;turn 9");
         did(bend, "build 2 0 5");
@@ -331,6 +358,24 @@ final class StepEdges extends Edges {
         wayIs(far, 9, 17, 4, "9 1 2 3 4 5 6 7 17");
         is(far, "best 9 17 4", 14 + 6 * 5 + 14 + 2);
         is(new GentleRoad(), "best 0 1 4", NO_PLACE);
+    }
+
+    /** On level ground with a road of one step every step costs what it did, but for that one. */
+    private static void onlyHalf(String build, int one, int other) {
+        GentleRoad x = flat(3, 3, "");
+        did(x, build);
+        for (int place = 0; place < 9; place++) {
+            for (int next = 0; next < 9; next++) {
+                int rows = Math.abs(place / 3 - next / 3);
+                int columns = Math.abs(place % 3 - next % 3);
+                if (place == next || rows > 1 || columns > 1) {
+                    continue;
+                }
+                boolean isRoad = place == one && next == other || place == other && next == one;
+                int due = rows + columns == 1 ? 10 : 14;
+                is(x, "best " + place + " " + next + " 4", isRoad ? due / 2 : due);
+            }
+        }
     }
 
     private static void washed() {

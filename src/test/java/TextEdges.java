@@ -243,6 +243,14 @@ final class TextEdges extends Edges {
         is(x, "place 8 0", NO_PLACE);
         is(x, "at 0 0 false", CANNOT);
         is(x, "undo", CANNOT);
+        // of a greater one nothing is beside the places of a lesser one: corners and edges are where they are now
+        GentleRoad less = flat(9, 9, "");
+        tell(less, "land 2 2;row 0 0;row 0 0");
+        is(less, "land", 4);
+        are(less, "28 112 7 193 3", "place 0 3", "place 1 3", "place 2 3", "place 3 3", "reach 0");
+        tell(less, "land 3 3;row 9 9 9;row 9 0 9;row 9 9 9");
+        is(less, "land", 9);
+        are(less, "9 9 1 1", "water 4 2", "water 8 2", "count 5", "water 8 1");
         // terms told by tune ahead of the first text go, too
         GentleRoad y = new GentleRoad();
         did(y, "tune 0 99");
@@ -275,6 +283,11 @@ final class TextEdges extends Edges {
         right("land2 2;row1 2;row3 4;wet0;dig9", 4);
         wrong("^lan 2 2;row 1 2;row 3 4");
         wrong("^landx 2 2;row 1 2;row 3 4");
+        wrong("^landz 2 2;row 1 2;row 3 4");
+        wrong("^landa 2 2;row 1 2;row 3 4");
+        wrong("land 2 2;^rowz 1 2;row 3 4");
+        wrong(FOUR + ";^wetz 1");
+        wrong(FOUR + ";^wetza 1");
         wrong("^landrow 2 2");
         wrong("^Land 2 2;row 1 2;row 3 4");
         wrong("^la nd 2 2;row 1 2;row 3 4");
