@@ -4,6 +4,7 @@ import java.util.List;
 /** A GentleRoad and a Plain that get the same calls; what they answer must be alike. */
 final class Both {
     private static final int SHOWN = 3;
+    private static final String CUT_OFF = "7s;3 dwet0z ";
     private static int wrong = 0;
     private static int calls = 0;
 
@@ -141,13 +142,14 @@ final class Both {
         }
     }
 
-    /** Puts a text on an empty tape. */
+    /** Puts a text on an empty tape; what is cut off then looks like more of it, so that it would be seen if read. */
     void tell(String text) {
         told.add("text: " + text);
         byte[] bytes = text.getBytes(java.nio.charset.StandardCharsets.ISO_8859_1);
         int[] numbers = new int[(bytes.length + 19) / 20 * 5];
-        for (int k = 0; k < bytes.length; k++) {
-            numbers[k / 4] |= (bytes[k] & 255) << (24 - 8 * (k % 4));
+        for (int k = 0; k < 4 * numbers.length; k++) {
+            int one = k < bytes.length ? bytes[k] & 255 : CUT_OFF.charAt((k * 7 + bytes.length) % CUT_OFF.length());
+            numbers[k / 4] |= one << (24 - 8 * (k % 4));
         }
         for (int k = 0; k < numbers.length; k += 5) {
             call("feed", java.util.Arrays.copyOfRange(numbers, k, k + 5));
