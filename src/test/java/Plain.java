@@ -62,6 +62,12 @@ final class Plain {
         return tape.size();
     }
 
+    void tell(String text) {
+        for (char c : text.toCharArray()) {
+            tape.add((int) c);
+        }
+    }
+
     boolean end(int n) {
         if (n < 0 || tape.size() < n) {
             return false;
@@ -495,6 +501,16 @@ final class Plain {
         needNumber(from != to);
         Way way = ways(from, kind)[to];
         return way == null ? -1 : way.much;
+    }
+
+    /** As best, to every place at once. */
+    int[] bests(int from, int kind) {
+        Way[] ways = ways(from, kind);
+        int[] bests = new int[ways.length];
+        for (int to = 0; to < ways.length; to++) {
+            bests[to] = ways[to] == null ? -1 : ways[to].much;
+        }
+        return bests;
     }
 
     int along(int from, int to, int kind, int k) {
