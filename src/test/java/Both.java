@@ -59,9 +59,10 @@ final class Both {
         return got;
     }
 
-    void call(String name, int... a) {
+    /** What the call answers; nothing, if the run is over. */
+    String call(String name, int... a) {
         String shown = name + java.util.Arrays.toString(a);
-        check(shown, () -> ours(name, a), () -> due(name, a));
+        return check(shown, () -> ours(name, a), () -> due(name, a));
     }
 
     private Object ours(String name, int[] a) {

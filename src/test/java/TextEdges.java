@@ -146,6 +146,29 @@ final class TextEdges extends Edges {
         offsetsAre(x, 0, "3 -3");
         did(x, "build 0 1 0");
         offsetsAre(x, 0, "0 0");
+        comeToTwice();
+    }
+
+    /** The offset is that of a place in the road: one that is come to twice has one for each time. */
+    private static void comeToTwice() {
+        GentleRoad x = twice();
+        did(x, "build 0 4 13");
+        placesAre(x, 0, "4 3 2 1 0 1 7 13");
+        offsetsAre(x, 0, "0 0 0 0 0 0 0 0");
+        // earth costs nothing, but must balance: the first four down, the last four up, 1 among both
+        did(x, "tune 8 0", "tune 9 0", "tune 10 0");
+        is(x, "level 0 99", 0);
+        offsetsAre(x, 0, "-1 -1 -1 -1 1 1 1 1");
+        is(x, "road 0 9", 0);
+        // up to 2, which is 2 high, one needs banks at 3 and 1; when one comes to 1 again, none
+        did(x, "raise 2 1", "tune 8 9", "tune 9 1", "tune 10 2");
+        are(x, "2 2", "earth 0 10", "level 0 10");
+        offsetsAre(x, 0, "0 1 0 1 0 0 0 0");
+        are(x, "2 2 0 2 0 10", "road 0 8", "road 0 9", "road 0 7", "road 0 11", "road 0 12", "road 0 10");
+        // two banks are too much now: a cutting at 2 it is
+        did(x, "tune 10 1");
+        is(x, "level 0 10", 9);
+        offsetsAre(x, 0, "0 0 -1 0 0 0 0 0");
     }
 
     private static void form() {
